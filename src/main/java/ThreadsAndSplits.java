@@ -957,7 +957,7 @@ public final class ThreadsAndSplits {
 
     /** What a text asks for, as code: operands ahead of what joins them. */
     private static final class Law {
-        static final int MELT = 0, SPLIT = 1, THREAD = 2, PARTS = 3;
+        static final int MELT = 0, SPLIT = 1, THREAD = 2;
         // Numbers stand for themselves; all else is below 0.
         static final int FIRST_NAME = -1, LAST_NAME = -6;
         static final int NOT = -11, NEGATE = -12;
@@ -1219,16 +1219,16 @@ public final class ThreadsAndSplits {
         }
 
         private boolean isWordAt(int first) {
-            int long_ = next - place;
-            if (first < 0 || long_ >= WORD_WIDTH || first > WORDS.length() - WORD_WIDTH) {
+            int wide = next - place;
+            if (first < 0 || wide >= WORD_WIDTH || first > WORDS.length() - WORD_WIDTH) {
                 return false;
             }
-            for (int i = 0; i < long_; i++) {
+            for (int i = 0; i < wide; i++) {
                 if (WORDS.charAt(first + i) != byteAt(place + i)) {
                     return false;
                 }
             }
-            return WORDS.charAt(first + long_) == ' ';
+            return WORDS.charAt(first + wide) == ' ';
         }
 
         private void stepOverNumber() {
