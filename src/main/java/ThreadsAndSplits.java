@@ -1025,6 +1025,7 @@ public final class ThreadsAndSplits {
         private int fault;
         private final int[] code = new int[MOST_BYTES];
         private int codeSize;
+        private final int[] ends = new int[3];
 
         int size() {
             return size;
@@ -1051,25 +1052,20 @@ public final class ThreadsAndSplits {
             fault = NO_FAULT;
             codeSize = 0;
             stepOn();
-            readPart(Law.MELT);
-            int meltEnd = codeSize;
-            readPart(Law.SPLIT);
-            int splitEnd = codeSize;
-            readPart(Law.THREAD);
+            for (int part = 0; part < ends.length; part++) {
+                demand(FIRST_WORD + part);
+                readAny(0);
+                demand(';');
+                ends[part] = codeSize;
+            }
             demand(END);
             size = 0;
-            if (fault != NO_FAULT) {
+            if (fault != NO_FAULT || codeSize < 0 || codeSize > code.length) {
                 return null;
             }
             int[] kept = new int[codeSize];
             System.arraycopy(code, 0, kept, 0, codeSize);
-            return new Law(kept, meltEnd, splitEnd);
-        }
-
-        private void readPart(int part) {
-            demand(FIRST_WORD + part);
-            readAny(0);
-            demand(';');
+            return new Law(kept, ends[Law.MELT], ends[Law.SPLIT]);
         }
 
         private void readAny(int open) {
