@@ -2,13 +2,23 @@
 public final class Due {
     private int wrong = 0;
     private int asked = 0;
+    private String test = "";
+
+    /** The test that the next answers belong to. */
+    public void begin(String name) {
+        test = name + ": ";
+    }
 
     public void is(String what, long got, long want) {
         asked++;
         if (got != want) {
-            wrong++;
-            System.out.println(what + " answered " + got + ", due is " + want);
+            fail(what + " answered " + got + ", due is " + want);
         }
+    }
+
+    public void fail(String why) {
+        wrong++;
+        System.out.println(test + why);
     }
 
     public void end() {
