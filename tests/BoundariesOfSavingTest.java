@@ -403,6 +403,25 @@ public final class BoundariesOfSavingTest {
         due.is("an empty pot", new ThreadsAndSplits().strokes(0, 9), 0);
     }
 
+    static void promise24AMinuteIsBehindEach() {
+        // HEAT 13, 9, then 6, 4: behind the second STROKES all TIED melts, so that each one more brings back 5.
+        ThreadsAndSplits x = pot("melt (heat<6)*100;split (5<heat)*100;thread 0;", 2, 1, 0, 0, 0, 0);
+        x.cheese(1, 24, 0, 99, 0);
+        x.set(0, 0);
+        due.is("oil", x.pot(2, 4), 12);
+        due.is("1, 1, 5, 5", x.strokes(2, 1), 4);
+        x.ripen(0, 1, 26);
+        due.is("1, 1, 5, 5, 1", x.strokes(2, 1), 5);
+    }
+
+    static void promise24TheMinutesAreStirred() {
+        // HELD that goes in them goes to DROPS.
+        ThreadsAndSplits x = pot("melt 0;split 50;thread 0;", 2, 1, 0, 0, 0, 0);
+        x.cheese(1, 8, 0, 0, 0);
+        due.is("oil", x.pot(2, 4), 4);
+        due.is("four", x.strokes(2, 1), 4);
+    }
+
     static void promise24JustAllIsEnough() {
         // 20 by fives, tens, fifteens, twenties.
         int[] times = {4, 2, 2, 1, 1, 1, 1, 1, 1};
@@ -617,6 +636,8 @@ public final class BoundariesOfSavingTest {
         due.is("5 and 1", melting("(27<heat)*100", 10).pace(0, 6), 5);
         due.is("2", melting("(27<heat)*100", 10).pace(0, 2), 2);
         due.is("3: 2 and 1", melting("(27<heat)*100", 10).pace(0, 3), 2);
+        // Two at once melt by 75 of 100: 5 tied, 15 free. One more is tied: 15; two more would be too many.
+        due.is("no more than the rest", melting("(heat=28)*75", 10).pace(0, 3), 2);
     }
 
     // ---- the table: promise 28
@@ -765,6 +786,35 @@ public final class BoundariesOfSavingTest {
         due.is("90", drying(46).dips(90, 999), 1);
     }
 
+    /** All that a pot may hold, so that a pot for each try that lacks a part would tell. */
+    private static ThreadsAndSplits laden(String when) {
+        ThreadsAndSplits x = pot("melt 0;split (" + when + ")*100;thread 0;", 2, 3, 0, 4, 2, 0);
+        x.cheese(40, 10, 0, 20, 0);
+        return x;
+    }
+
+    static void promise29EachTryBeginsBehindAllActs() {
+        String[] asItIs = {"not age=40", "not sour=3", "not starch<3", "not fat=30 and 30<heat", "water<5"};
+        for (String when : asItIs) {
+            due.is(when, laden(when).dips(5, 999), 30);
+        }
+        due.is("age 40", laden("age=40 and starch=2").dips(5, 999), 1);
+        due.is("sour 3", laden("sour=3 and starch=2").dips(5, 999), 1);
+        due.is("starch 2", laden("starch=2 and 35<heat").dips(5, 999), 1);
+        due.is("fat 30", laden("fat=30 and 35<heat").dips(5, 999), 1);
+    }
+
+    static void promise29CrustOfTied() {
+        // 50 and 49 of TIED, three MINUTES without a dip.
+        for (int lime = 49; lime <= 50; lime++) {
+            ThreadsAndSplits x = pot(STILL, 2, 1, 0);
+            x.cheese(5, 10, 0, lime, 0);
+            x.set(0, 9);
+            due.is("lime " + lime, x.dips(3, lime == 50 ? 6 : 3), 30);
+            due.is("lime " + lime, x.dips(3, lime == 50 ? 5 : 2), 3);
+        }
+    }
+
     static void promise30MinutesAreFrom1To90() {
         due.is("-1", crusty().wick(-1, 1), -2);
         due.is("0", crusty().wick(0, 1), -2);
@@ -813,6 +863,15 @@ public final class BoundariesOfSavingTest {
         due.is("for two", warm("40<heat").wick(2, 30), 4);
         due.is("for three", warm("40<heat").wick(3, 30), 3);
         due.is("for 90", warm("40<heat").wick(90, 30), 3);
+    }
+
+    static void promise30EachTryBeginsBehindAllActs() {
+        due.is("age", laden("not age=40").wick(5, 30), 9);
+        due.is("sour", laden("not sour=3").wick(5, 30), 9);
+        due.is("starch and hot", laden("starch=2 and 35<heat").wick(5, 30), 3);
+        due.is("age and hot", laden("age=40 and 35<heat").wick(5, 30), 3);
+        due.is("sour and hot", laden("sour=3 and 35<heat").wick(5, 30), 3);
+        due.is("fat and hot", laden("fat=30 and 35<heat").wick(5, 30), 3);
     }
 
     static void promise30TheFlameToldStays() {

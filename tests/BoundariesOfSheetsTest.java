@@ -340,6 +340,15 @@ public final class BoundariesOfSheetsTest {
         due.is("some above what a flame gives", above > 0 ? 1 : 0, 1);
     }
 
+    static void promise35HeatReaches120() {
+        // By seed 21583 and flame 9 HEAT is 120 behind twenty MINUTES; no lot brings it above that.
+        ThreadsAndSplits x = new ThreadsAndSplits();
+        x.set(0, 9);
+        Make.acts(x, 0, 9, 0, 0, 9, 0);
+        due.is("by hand", flickered(21583, 9, 20, false), 120);
+        due.is("drawn", x.drawn(2, 21583, HEAT), 120);
+    }
+
     static void promise35APourTakesHeatNotBelow0() {
         int below = 0;
         for (int seed = 0; seed < 60; seed++) {
@@ -510,6 +519,31 @@ public final class BoundariesOfSheetsTest {
         for (int i = 1; i <= 4; i++) {
             for (int what = 0; what < 5; what++) {
                 due.is("as it was", x.sortTold(i - 1, what), 10 * what + i);
+            }
+        }
+    }
+
+    static void promise38TheFirstTextAndTheSixthComeBackAsTheLaw() {
+        for (int law = 0; law < 6; law++) {
+            ThreadsAndSplits x = Twins.full();
+            x.force(law);
+            x.image();
+            x.force(5 - law);
+            x.back();
+            due.is("text " + law, x.count(6), law);
+        }
+    }
+
+    static void promise38FlameWineAndSourComeBackFromTheirBounds() {
+        int[] most = {9, 99, 9};
+        for (int what = 0; what < 3; what++) {
+            for (int v : new int[] {0, most[what]}) {
+                ThreadsAndSplits x = new ThreadsAndSplits();
+                x.set(what, v);
+                x.image();
+                x.set(what, 5);
+                x.back();
+                due.is("what " + what, x.count(what), v);
             }
         }
     }

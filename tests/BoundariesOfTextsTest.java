@@ -146,6 +146,66 @@ public final class BoundariesOfTextsTest {
         }
     }
 
+    /** Two handfuls of LIME 50 and FAT 50, flame 9: HEAT 48 behind them. */
+    private static ThreadsAndSplits atFirst() {
+        ThreadsAndSplits x = new ThreadsAndSplits();
+        x.cheese(10, 50, 0, 50, 0);
+        x.set(0, 9);
+        x.act(2, 2, 0);
+        due.is("heat", x.pot(1, 8), 48);
+        return x;
+    }
+
+    static void promise08Text0MeltsByHeatAndSourUpTo100() {
+        // 48 times 2 and 3 less 20 is 79; with SOUR 9 it is 85.
+        ThreadsAndSplits x = atFirst();
+        due.is("79", x.pot(1, 1), 79);
+        x.set(2, 9);
+        due.is("85", x.pot(1, 1), 85);
+        // HEAT 68: 119 is 100.
+        x.act(1, 0, 0);
+        due.is("all", x.pot(2, 0), 0);
+        // Flame 0: HEAT 18 becomes 12, and 24 and 0 less 20 is 4; then HEAT 8, and 16 less 20 is below 0.
+        x.set(0, 0);
+        x.set(2, 0);
+        due.is("4", x.pot(1, 1), 4);
+        due.is("no more", x.pot(2, 1), 4);
+    }
+
+    static void promise08Text0SplitsByHeatLessSourAndStarchFrom0() {
+        ThreadsAndSplits x = atFirst();
+        due.is("48 less 56", x.pot(1, 3), 0);
+        x.act(4, 1, 0);
+        due.is("heat", x.pot(2, 8), 68);
+        due.is("68 less 50 less 6 less 1", x.pot(2, 3), 11);
+        x.set(2, 9);
+        due.is("68 less 50 less 18 less 1", x.pot(2, 3), 0);
+        x.set(2, 8);
+        due.is("68 less 50 less 16 less 1", x.pot(2, 3), 1);
+    }
+
+    static void promise08Text0ThreadsByAgeAndHeat() {
+        ThreadsAndSplits x = atFirst();
+        due.is("60 less 10 and 48", x.pot(1, 12), 98);
+        x.ripen(0, 0, 99);
+        due.is("60 less 99 and 48", x.pot(1, 12), 9);
+        x.set(0, 2);
+        due.is("heat", x.pot(1, 8), 20);
+        due.is("60 less 99 and 20", x.pot(1, 12), 0);
+    }
+
+    static void promise08Text0StaysWhenOthersCome() {
+        ThreadsAndSplits x = sixTexts();
+        x.cheese(10, 50, 0, 50, 0);
+        x.set(0, 9);
+        x.act(2, 2, 0);
+        due.is("it is the law yet", x.pot(1, 1), 79);
+        x.force(5);
+        due.is("another one", x.pot(1, 1), 5);
+        x.force(0);
+        due.is("it is the law again", x.pot(1, 1), 79);
+    }
+
     // ---- tokens
 
     static void promise08WhatEachByteMeans() {
@@ -176,6 +236,9 @@ public final class BoundariesOfTextsTest {
         faultE("1 or2 or x", 9);
         faultE("nota", 0);
         faultE("heatheat", 0);
+        faultE("heatz", 0);
+        faultE("heata", 0);
+        faultE("zheat", 0);
         faultE("hea", 0);
         faultE("heat or water and fat = agee", 24);
     }
@@ -286,6 +349,23 @@ public final class BoundariesOfTextsTest {
         faultE("* 1", 0);
         faultE("-", 1);
         faultE("(", 1);
+    }
+
+    static void promise08AWordThatIsNoneStandsNowhere() {
+        faultE("(x 1)", 1);
+        faultE("- x 1", 2);
+        faultE("not x 1", 4);
+        faultE("1 or x 1", 5);
+        faultE("1 and x 1", 6);
+        faultE("1 < x 1", 4);
+        faultE("1 + x 1", 4);
+        faultE("1 * x 1", 4);
+        faultE("1 x", 2);
+        faultE("(1 x", 3);
+        faultE("(1) x", 4);
+        fault("x melt 1;split 2;thread 3;", 0);
+        fault("melt 1 ; x split 2;", 9);
+        fault("melt 1;split 2;thread 3;x", 24);
     }
 
     static void promise08OfSeveralFaultsTheFirstOne() {

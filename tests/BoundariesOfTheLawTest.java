@@ -1,4 +1,4 @@
-/** Promises 1 to 12 but the texts (8), the edges alone: what is taken last and refused first, empty and full, what wraps around. */
+/** Promises 1 to 12 but the texts (8), the edges alone: what is taken last and refused first, empty and full. */
 public final class BoundariesOfTheLawTest {
     private static final int MIN = Integer.MIN_VALUE, MAX = Integer.MAX_VALUE;
     private static final Due due = new Due();

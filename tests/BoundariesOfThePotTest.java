@@ -536,6 +536,20 @@ public final class BoundariesOfThePotTest {
         due.is("an empty pot", thick(0), 0);
     }
 
+    static void promise13ThickTellsDrops() {
+        // HELD 99, of which 60 parts of 100 become DROPS, 59; LIME 1 becomes FREE.
+        ThreadsAndSplits x = pot("melt 100;split 60;thread 0;", 2, 1, 0);
+        x.cheese(1, 99, 0, 1, 0);
+        x.set(1, 0);
+        is(x, DROPS, 59);
+        is(x, THICK, 60);
+        is(x, SORT, 0);
+        x.act(4, 0, 0);
+        // 24 more of what is left.
+        is(x, THICK, 84);
+        is(x, SORT, 5);
+    }
+
     static void promise13ThickTellsThreeTimesStarch() {
         due.is("starch alone", thick(0, 4, 5, 0), 15);
         due.is("both", thick(0, 4, 5, 0, 2, 1, 0), 75);
@@ -725,6 +739,26 @@ public final class BoundariesOfThePotTest {
             x.cheese(1, f[0], 0, 0, 0);
             due.is("with " + f[0], x.splits(1), f[1]);
         }
+    }
+
+    static void promise14OneMoreIsMost() {
+        due.is("one", risen(2).splits(1), 1);
+        due.is("none", risen(1).splits(1), -1);
+    }
+
+    static void promise14MostMoreOfThoseThatGrow() {
+        // 5 more, 10 more, 15 more; then, with less of the last cheese, 5, 10, 10.
+        ThreadsAndSplits x = pot("melt 0;split 100;thread 0;", 2, 1, 0, 0, 0, 0, 2, 1, 1, 0, 0, 0, 2, 1, 2, 0, 0, 0);
+        x.cheese(1, 10, 0, 0, 0);
+        x.cheese(1, 15, 0, 0, 0);
+        x.cheese(1, 20, 0, 0, 0);
+        due.is("5", x.pot(2, OIL), 5);
+        due.is("10 more", x.pot(4, OIL), 15);
+        due.is("15 more", x.pot(6, OIL), 30);
+        due.is("the last", x.splits(1), 5);
+        x.ripen(2, 1, 10);
+        due.is("10 more again", x.pot(6, OIL), 25);
+        due.is("the first of both", x.splits(1), 3);
     }
 
     static void promise14LessOilIsNotMore() {

@@ -1,30 +1,10 @@
 import java.math.BigInteger;
 
-/** Each promise by answers worked out by hand: ordinary ones, the edges that the document names, refusals in order. */
+/** Each promise by answers worked out by hand, ordinary ones above all; its edges are tested one by one elsewhere. */
 public final class PromisesTest {
     private static final int MIN = Integer.MIN_VALUE, MAX = Integer.MAX_VALUE;
     private static final long NO = -4611686018427387904L;
     private static final Due due = new Due();
-
-    private static int read(ThreadsAndSplits x, String text) {
-        for (Integer[] f : Script.feeds(text)) {
-            x.feed(f[0], f[1], f[2], f[3], f[4], f[5]);
-        }
-        return x.text();
-    }
-
-    private static ThreadsAndSplits under(String law) {
-        ThreadsAndSplits x = new ThreadsAndSplits();
-        due.is("reading " + law, read(x, law), 1);
-        x.force(1);
-        return x;
-    }
-
-    private static void acts(ThreadsAndSplits x, int... threes) {
-        for (int i = 0; i < threes.length; i += 3) {
-            x.act(threes[i], threes[i + 1], threes[i + 2]);
-        }
-    }
 
     /** All that pot() tells, in its order. */
     private static void potIs(ThreadsAndSplits x, int n, int... all) {
@@ -133,7 +113,7 @@ public final class PromisesTest {
     }
 
     private static void textFault(String text, int place) {
-        due.is("8 fault of [" + text + "]", read(new ThreadsAndSplits(), text), -100 - place);
+        due.is("8 fault of [" + text + "]", Make.read(new ThreadsAndSplits(), text), -100 - place);
     }
 
     private static void texts() {
@@ -186,12 +166,13 @@ public final class PromisesTest {
         textFault("melt 1 ; split 2 ; thread \u00e4 ;", 26);
 
         ThreadsAndSplits x = new ThreadsAndSplits();
-        due.is("8 first", read(x, "melt((((( 9999)))))+(((((1)))));split-----heat;thread not not not not not age;"), 1);
-        due.is("8 no blanks", read(x, "melt 1;split 2;thread 3;"), 2);
-        due.is("8 words end by what is no letter", read(x, "melt(1)or 2and 3;split not(1)<2;thread\n0007;"), 3);
-        due.is("8 - in a chain is not open", read(x, "melt 1 - -1 - -1 - -1 - -1 - -1 - -1;split not 1 or not 1 or "
-            + "not 1 or not 1 or not 1 or not 1;thread (1)*(1)*(1)*(1)*(1)*(1);"), 4);
-        due.is("8 sixth", read(x, "melt heat+sour*starch-water;split fat<age;thread 1=2;"), 5);
+        due.is("8 first", Make.read(x, "melt((((( 9999)))))+(((((1)))));split-----heat;thread not not not not not "
+            + "age;"), 1);
+        due.is("8 no blanks", Make.read(x, "melt 1;split 2;thread 3;"), 2);
+        due.is("8 words end by what is no letter", Make.read(x, "melt(1)or 2and 3;split not(1)<2;thread\n0007;"), 3);
+        due.is("8 - in a chain is not open", Make.read(x, "melt 1 - -1 - -1 - -1 - -1 - -1 - -1;"
+            + "split not 1 or not 1 or not 1 or not 1 or not 1 or not 1;thread (1)*(1)*(1)*(1)*(1)*(1);"), 4);
+        due.is("8 sixth", Make.read(x, "melt heat+sour*starch-water;split fat<age;thread 1=2;"), 5);
         due.is("6 texts", x.count(5), 6);
         x.feed(1, 0, 0, 0, 0, 0);
         due.is("8 full ahead of the fault", x.text(), -4);
@@ -207,11 +188,11 @@ public final class PromisesTest {
 
     /** What an expression is worth in a pot of HEAT 2, SOUR 3, STARCH 7, WATER 34, HELD 70, AGE 7 (15 weeks by 2). */
     private static void worth(String e, int value) {
-        ThreadsAndSplits x = under("melt 100;split 0;thread " + e + ";");
+        ThreadsAndSplits x = Make.under("melt 100;split 0;thread " + e + ";");
         x.set(0, 0);
         x.cheese(7, 30, 2, 5, 0);
         x.cheese(8, 40, 3, 5, 0);
-        acts(x, 2, 1, 0, 2, 1, 1, 1, 2, 0, 4, 7, 0);
+        Make.acts(x, 2, 1, 0, 2, 1, 1, 1, 2, 0, 4, 7, 0);
         // HEAT 20 less 1 becomes 13, less 1 becomes 8, less 1 becomes 5, less 3 stays 2.
         due.is("what is " + e, x.pot(4, 12), Math.max(0, Math.min(999, value)));
     }
@@ -301,9 +282,9 @@ public final class PromisesTest {
 
     /** Half of TIED and a tenth of HELD each MINUTE; a pot of every sort of act. */
     private static ThreadsAndSplits halves() {
-        ThreadsAndSplits x = under("melt 50;split 10;thread 45;");
+        ThreadsAndSplits x = Make.under("melt 50;split 10;thread 45;");
         x.cheese(10, 10, 5, 20, 3);
-        acts(x, 2, 4, 0, 0, 1, 0, 3, 2, 0, 4, 8, 6, 5, 0, 9, 1, 3, 5);
+        Make.acts(x, 2, 4, 0, 0, 1, 0, 3, 2, 0, 4, 8, 6, 5, 0, 9, 1, 3, 5);
         return x;
     }
 
@@ -335,9 +316,9 @@ public final class PromisesTest {
     }
 
     private static void bounds() {
-        ThreadsAndSplits x = under("melt 0 - 7;split 9999;thread 0;");
+        ThreadsAndSplits x = Make.under("melt 0 - 7;split 9999;thread 0;");
         x.cheese(1, 99, 0, 99, 0);
-        acts(x, 1, 9, 9, 1, 9, 9, 1, 9, 9, 1, 9, 9, 1, 9, 9, 4, 9, 9, 4, 9, 9, 5, 9, 9, 5, 9, 9);
+        Make.acts(x, 1, 9, 9, 1, 9, 9, 1, 9, 9, 1, 9, 9, 1, 9, 9, 4, 9, 9, 4, 9, 9, 5, 9, 9, 5, 9, 9);
         due.is("sour is 99 at most", x.pot(9, 6), 99);
         due.is("starch", x.pot(9, 7), 18);
         due.is("heat of flame 9", x.pot(9, 8), 106);
@@ -348,11 +329,11 @@ public final class PromisesTest {
         due.is("all goes", x.pot(12, 2), 0);
         due.is("all goes to drops", x.pot(12, 3), 2673);
         ThreadsAndSplits y = new ThreadsAndSplits();
-        acts(y, 4, 9, 0, 4, 9, 0, 4, 9, 0, 4, 9, 0, 4, 9, 0, 4, 9, 0, 4, 9, 0, 4, 9, 0, 4, 9, 0, 4, 9, 0, 4, 9, 0);
+        Make.acts(y, 4, 9, 0, 4, 9, 0, 4, 9, 0, 4, 9, 0, 4, 9, 0, 4, 9, 0, 4, 9, 0, 4, 9, 0, 4, 9, 0, 4, 9, 0, 4, 9, 0);
         due.is("starch is 99 yet", y.pot(11, 7), 99);
         y.act(4, 9, 0);
         due.is("starch is 99 at most", y.pot(12, 7), 99);
-        ThreadsAndSplits z = under("melt 0;split 0;thread 0;");
+        ThreadsAndSplits z = Make.under("melt 0;split 0;thread 0;");
         z.cheese(1, 1, 99, 99, 0);
         z.set(1, 99);
         z.set(0, 0);
@@ -363,15 +344,15 @@ public final class PromisesTest {
         due.is("heat of handfuls", z.pot(12, 8), 0);
         ThreadsAndSplits w = new ThreadsAndSplits();
         w.set(1, 1);
-        acts(w, 5, 9, 9);
+        Make.acts(w, 5, 9, 9);
         due.is("water is 0 at least", w.pot(1, 5), 0);
     }
 
     private static void crusts() {
-        ThreadsAndSplits x = under("melt 0;split 0;thread 0;");
+        ThreadsAndSplits x = Make.under("melt 0;split 0;thread 0;");
         x.cheese(1, 10, 0, 99, 0);
         x.set(0, 9);
-        acts(x, 2, 4, 0, 0, 0, 0, 3, 3, 0, 0, 9, 0, 3, 9, 0);
+        Make.acts(x, 2, 4, 0, 0, 0, 0, 3, 3, 0, 0, 9, 0, 3, 9, 0);
         due.is("heat", x.pot(2, 8), 66);
         due.is("crust of TIED 396", x.pot(2, 10), 8);
         due.is("strokes loosen", x.pot(3, 10), 5);
@@ -379,10 +360,10 @@ public final class PromisesTest {
         due.is("crust", x.pot(5, 10), 76);
         due.is("lumps do not hold, grains do", x.pot(5, 13), 2);
         // HEAT 20 less 8 becomes 32, then 45, 54, 60, 64: at 60 there is no crust yet, above it there is.
-        ThreadsAndSplits y = under("melt 0;split 0;thread 0;");
+        ThreadsAndSplits y = Make.under("melt 0;split 0;thread 0;");
         y.cheese(1, 0, 0, 0, 0);
         y.set(0, 6);
-        acts(y, 2, 8, 0, 0, 2, 0);
+        Make.acts(y, 2, 8, 0, 0, 2, 0);
         due.is("heat", y.pot(2, 8), 60);
         due.is("not above 60", y.pot(2, 10), 0);
         y.act(0, 0, 0);
@@ -391,10 +372,10 @@ public final class PromisesTest {
     }
 
     private static void sorts() {
-        ThreadsAndSplits x = under("melt starch * 10;split sour;thread 41 - (8 < starch);");
+        ThreadsAndSplits x = Make.under("melt starch * 10;split sour;thread 41 - (8 < starch);");
         x.cheese(1, 50, 0, 10, 0);
         x.cheese(1, 50, 6, 10, 0);
-        acts(x, 2, 4, 1, 0, 9, 0);
+        Make.acts(x, 2, 4, 1, 0, 9, 0);
         due.is("lumped", x.pot(2, 13), 4);
         x.ripen(1, 2, 0);
         x.set(0, 0);
@@ -406,17 +387,17 @@ public final class PromisesTest {
         x.set(1, 0);
         x.forget();
         x.forget();
-        acts(x, 2, 4, 0, 0, 9, 0);
+        Make.acts(x, 2, 4, 0, 0, 9, 0);
         due.is("little water: oiled", x.pot(2, 13), 3);
         due.is("grainy", x.pot(1, 13), 2);
         x.forget();
         x.forget();
-        acts(x, 4, 8, 0, 2, 4, 0);
+        Make.acts(x, 4, 8, 0, 2, 4, 0);
         x.set(1, 20);
         due.is("threads above 40", x.pot(2, 13), 1);
         x.forget();
         x.forget();
-        acts(x, 4, 9, 0, 2, 4, 0);
+        Make.acts(x, 4, 9, 0, 2, 4, 0);
         due.is("threads no longer than 40", x.pot(2, 13), 0);
         x.set(1, 0);
         due.is("thick", x.pot(2, 11), 36 + 27 + 6);
@@ -424,10 +405,10 @@ public final class PromisesTest {
     }
 
     private static void holdsOrNot() {
-        ThreadsAndSplits x = under("melt 100;split(40<heat or 4<sour)*100;thread 50;");
+        ThreadsAndSplits x = Make.under("melt 100;split(40<heat or 4<sour)*100;thread 50;");
         x.cheese(5, 10, 0, 10, 0);
         due.is("16 nothing in it", x.flames(), 1023);
-        acts(x, 2, 2, 0, 0, 0, 0);
+        Make.acts(x, 2, 2, 0, 0, 0, 0);
         due.is("16 flames", x.flames(), 31);
         due.is("17 sours", x.sours(), 31);
         due.is("18 region", x.region(), 25);
@@ -459,9 +440,9 @@ public final class PromisesTest {
     }
 
     private static void mostWine() {
-        ThreadsAndSplits x = under("melt 0;split(water=25)*100;thread 0;");
+        ThreadsAndSplits x = Make.under("melt 0;split(water=25)*100;thread 0;");
         x.cheese(1, 10, 0, 10, 0);
-        acts(x, 2, 2, 0, 0, 0, 0);
+        Make.acts(x, 2, 2, 0, 0, 0, 0);
         due.is("19 up to", x.most(), 24);
         x.set(1, 25);
         due.is("19 not with what there is", x.most(), -1);
@@ -474,12 +455,12 @@ public final class PromisesTest {
 
     /** All that is held comes out as soon as it is sour; it rises in the last act, for it is not stirred. */
     private static ThreadsAndSplits soured(int handfuls) {
-        ThreadsAndSplits x = under("melt 100;split(4<sour)*100;thread 50;");
+        ThreadsAndSplits x = Make.under("melt 100;split(4<sour)*100;thread 50;");
         x.cheese(5, 10, 0, 20, 0);
         for (int i = 0; i < handfuls; i++) {
             x.act(2, 4 / handfuls, 0);
         }
-        acts(x, 1, 4, 8, 0, 0, 0);
+        Make.acts(x, 1, 4, 8, 0, 0, 0);
         return x;
     }
 
@@ -513,9 +494,9 @@ public final class PromisesTest {
 
     private static void manyStrokes() {
         // 61 of OIL and no FREE: a stroke of 1 brings back one, sixty are not enough.
-        ThreadsAndSplits x = under("melt 0;split(heat<999)*50;thread 0;");
+        ThreadsAndSplits x = Make.under("melt 0;split(heat<999)*50;thread 0;");
         x.cheese(1, 61, 0, 0, 0);
-        acts(x, 2, 2, 0, 0, 0, 0);
+        Make.acts(x, 2, 2, 0, 0, 0, 0);
         potIs(x, 2, 0, 0, 31, 31, 60);
         due.is("24 sixty", x.strokes(2, 1), 60);
         x.ripen(0, 1, 62);
@@ -576,7 +557,7 @@ public final class PromisesTest {
     }
 
     private static void weeks() {
-        ThreadsAndSplits x = under("melt 100;split 0;thread(age<30)*age;");
+        ThreadsAndSplits x = Make.under("melt 100;split 0;thread(age<30)*age;");
         x.cheese(5, 10, 0, 20, 0);
         due.is("26 nothing in it", x.week(0, 0), 1);
         due.is("26 nothing in it", x.week(0, 1), 0);
@@ -587,19 +568,19 @@ public final class PromisesTest {
         due.is("26 no such cheese comes first", x.week(1, 2), -5);
         due.is("26 what", x.week(0, 2), -7);
         due.is("26 what", x.week(0, -1), -7);
-        ThreadsAndSplits y = under("melt 100;split 0;thread age*50;");
+        ThreadsAndSplits y = Make.under("melt 100;split 0;thread age*50;");
         y.cheese(5, 10, 0, 20, 0);
         y.act(2, 3, 0);
         due.is("26 the least of like ones", y.week(0, 0), 20);
         due.is("26 bounded", y.week(0, 1), 999);
-        ThreadsAndSplits z = under("melt 100;split 0;thread age;");
+        ThreadsAndSplits z = Make.under("melt 100;split 0;thread age;");
         z.cheese(5, 10, 0, 20, 0);
         z.act(2, 3, 0);
         due.is("26 up to 60", z.week(0, 0), 60);
     }
 
     private static void paces() {
-        ThreadsAndSplits x = under("melt heat;split 0;thread 0;");
+        ThreadsAndSplits x = Make.under("melt heat;split 0;thread 0;");
         x.cheese(5, 10, 0, 10, 0);
         due.is("27 two at a time", x.pace(0, 6), 2);
         x.cheese(5, 10, 0, 0, 0);
@@ -608,13 +589,13 @@ public final class PromisesTest {
         due.is("27 no such cheese comes first", x.pace(2, 0), -5);
         due.is("27 all", x.pace(0, 0), -7);
         due.is("27 all", x.pace(0, 31), -7);
-        ThreadsAndSplits y = under("melt 0;split 0;thread 0;");
+        ThreadsAndSplits y = Make.under("melt 0;split 0;thread 0;");
         y.cheese(5, 10, 0, 10, 0);
         due.is("27 none", y.pace(0, 5), -1);
     }
 
     private static void tables() {
-        ThreadsAndSplits x = under("melt 100;split 20;thread 50;");
+        ThreadsAndSplits x = Make.under("melt 100;split 20;thread 50;");
         x.cheese(5, 50, 5, 20, 0);
         x.act(2, 4, 0);
         due.is("28 not for a minute", x.table(2, 2, 0), 0);
@@ -633,7 +614,7 @@ public final class PromisesTest {
         due.is("28 not ahead", x.table(90, 1, 0), 0);
         due.is("29 none", x.dips(90, 999), -1);
         // From the first MINUTE on HEAT is above 60: each that is not stirred adds 1 of crust, each dip takes 2.
-        ThreadsAndSplits y = under("melt 0;split 0;thread 0;");
+        ThreadsAndSplits y = Make.under("melt 0;split 0;thread 0;");
         y.cheese(5, 10, 0, 0, 0);
         y.set(0, 9);
         y.act(2, 4, 0);
@@ -647,7 +628,7 @@ public final class PromisesTest {
             due.is("29 bad", y.dips(b[0], b[1]), -2);
         }
         due.is("29 edges", y.dips(90, 999), 30);
-        ThreadsAndSplits z = under("melt 0;split(age<5)*100;thread 0;");
+        ThreadsAndSplits z = Make.under("melt 0;split(age<5)*100;thread 0;");
         z.cheese(5, 10, 0, 0, 0);
         z.act(2, 4, 0);
         due.is("29 it stays as old at the table", z.dips(90, 999), 30);
@@ -657,7 +638,7 @@ public final class PromisesTest {
     }
 
     private static void wicks() {
-        ThreadsAndSplits x = under("melt 100;split(70<heat)*100;thread 0;");
+        ThreadsAndSplits x = Make.under("melt 100;split(70<heat)*100;thread 0;");
         x.cheese(5, 10, 0, 20, 0);
         x.act(2, 4, 0);
         due.is("30 for long", x.wick(90, 30), 6);
@@ -673,17 +654,10 @@ public final class PromisesTest {
         due.is("30 it holds with none", y.wick(5, 30), 9);
     }
 
-    private static void put(ThreadsAndSplits x, int s, int sort, int... numbers) {
-        x.sheet(s, sort, numbers.length);
-        for (int i = 0; i < numbers.length; i++) {
-            x.cell(s, i, numbers[i]);
-        }
-    }
-
     private static void judged() {
         ThreadsAndSplits x = halves();
         for (int sort = 0; sort < 3; sort++) {
-            put(x, sort, sort, 1, 3, 1, 1, 1, 1);
+            Make.put(x, sort, sort, 1, 3, 1, 1, 1, 1);
             due.is("31 as it is", x.judge(sort), -1);
             x.cell(sort, 5, 0);
             due.is("31 the last", x.judge(sort), 5);
@@ -706,7 +680,7 @@ public final class PromisesTest {
             due.is("34 size", x.which(0), -2);
         }
         due.is("32 a missing one becomes it", x.film(3), 6);
-        put(x, 0, 2, 0, 9, 1, 1, 1, 1);
+        Make.put(x, 0, 2, 0, 9, 1, 1, 1, 1);
         due.is("34 the law alone", x.which(0), 2);
         due.is("32 ints", x.copy(3, 0, 0, 0, 6), 6);
         due.is("32 as the pot is", x.which(0), 2);
@@ -716,9 +690,9 @@ public final class PromisesTest {
     }
 
     private static void agesAndLaws() {
-        ThreadsAndSplits x = under("melt 0;split(20<age)*100;thread 0;");
+        ThreadsAndSplits x = Make.under("melt 0;split(20<age)*100;thread 0;");
         x.cheese(10, 10, 0, 20, 0);
-        acts(x, 2, 4, 0, 0, 0, 0);
+        Make.acts(x, 2, 4, 0, 0, 0, 0);
         x.film(0);
         due.is("33 the young", x.ages(0, 0), (1L << 21) - 2);
         x.ripen(0, 0, 30);
@@ -727,20 +701,20 @@ public final class PromisesTest {
         due.is("33 it stays as old", x.sortTold(0, 0), 30);
         due.is("33 no such cheese", x.ages(1, 0), NO);
         due.is("33 no such cheese", x.ages(-1, 0), NO);
-        put(x, 1, 0, 0, 21);
+        Make.put(x, 1, 0, 0, 21);
         due.is("33 none", x.ages(0, 1), 0);
         due.is("34 none", x.which(1), 0);
-        put(x, 1, 0, 0, 20);
+        Make.put(x, 1, 0, 0, 20);
         due.is("34 this", x.which(1), 2);
         x.ripen(0, 0, 20);
-        put(x, 1, 1, 0, 0);
+        Make.put(x, 1, 1, 0, 0);
         due.is("34 both", x.which(1), 3);
         due.is("34 the law stays", x.count(6), 1);
         // Bytes are as Java has them: 200 is kept as less than 0.
         x.ripen(0, 0, 30);
         x.ripen(0, 1, 99);
-        put(x, 0, 0, 0, 198);
-        put(x, 1, 1, 0, 198 + 65536);
+        Make.put(x, 0, 0, 0, 198);
+        Make.put(x, 1, 1, 0, 198 + 65536);
         due.is("34 bytes", x.which(0), 0);
         due.is("34 shorts", x.which(1), 2);
     }
@@ -763,9 +737,9 @@ public final class PromisesTest {
     }
 
     private static void drawing() {
-        ThreadsAndSplits x = under("melt 0;split(34<heat)*100;thread 0;");
+        ThreadsAndSplits x = Make.under("melt 0;split(34<heat)*100;thread 0;");
         x.cheese(5, 10, 0, 0, 0);
-        acts(x, 2, 2, 0, 0, 0, 0);
+        Make.acts(x, 2, 2, 0, 0, 0, 0);
         for (int seed : new int[] {0, 1, 7, 500, 99998, 99999}) {
             int[] d = lots(seed, 2);
             int first = 28 + d[0];
@@ -801,7 +775,7 @@ public final class PromisesTest {
         ThreadsAndSplits x = new ThreadsAndSplits();
         due.is("38 none", x.back(), -3);
         x.cheese(10, 11, 12, 13, 14);
-        read(x, "melt 1;split 2;thread 3;");
+        Make.read(x, "melt 1;split 2;thread 3;");
         x.force(1);
         x.set(0, 7);
         x.set(1, 77);
@@ -886,7 +860,7 @@ public final class PromisesTest {
     /** What stands in a sheet of ints is seen by making acts of it. */
     private static void sheetNumbers() {
         ThreadsAndSplits x = new ThreadsAndSplits();
-        put(x, 0, 2, 1, 2, 3, 4, 5, 6, 7, 8, 9);
+        Make.put(x, 0, 2, 1, 2, 3, 4, 5, 6, 7, 8, 9);
         due.is("41 onto itself", x.copy(0, 0, 0, 1, 8), 8);
         due.is("42 acts", x.actsBy(0, 2, 0, 3), 2);
         due.is("41 as they were", x.actTold(0, 0) * 100 + x.actTold(0, 1) * 10 + x.actTold(0, 2), 112);
@@ -894,15 +868,15 @@ public final class PromisesTest {
         due.is("41 back onto itself", x.copy(0, 1, 0, 0, 8), 8);
         due.is("42 acts", x.actsBy(0, 2, 0, 1), 1);
         due.is("41 as they were", x.actTold(2, 0) * 100 + x.actTold(2, 1) * 10 + x.actTold(2, 2), 123);
-        put(x, 1, 0, 256, 513, -254);
+        Make.put(x, 1, 0, 256, 513, -254);
         due.is("40 lowest 8 bits", x.actsBy(1, 0, 0, 1), 1);
         due.is("40 lowest 8 bits", x.actTold(3, 0) * 100 + x.actTold(3, 1) * 10 + x.actTold(3, 2), 12);
-        put(x, 1, 1, 65536, 131073, -65534);
+        Make.put(x, 1, 1, 65536, 131073, -65534);
         due.is("40 lowest 16 bits", x.actsBy(1, 1, 0, 1), 1);
         due.is("40 lowest 16 bits", x.actTold(4, 0) * 100 + x.actTold(4, 1) * 10 + x.actTold(4, 2), 12);
-        put(x, 1, 1, 256, 0, 0);
+        Make.put(x, 1, 1, 256, 0, 0);
         due.is("40 a short is longer than a byte", x.actsBy(1, 1, 0, 1), 0);
-        put(x, 1, 2, 65536, 0, 0);
+        Make.put(x, 1, 2, 65536, 0, 0);
         due.is("40 an int is whole", x.actsBy(1, 2, 0, 1), 0);
         x.sheet(1, 2, 3);
         due.is("39 all 0", x.actsBy(1, 2, 0, 1), 1);
